@@ -711,7 +711,7 @@ public final class TypeLock {
 
         private static final int LETTERS = 8;
         private static final int DIGITS = 4;
-        private static final String WORDS = 
+        private static final String WORDS =
                 "x y wide high touch held push wood round frame block piece wedge north east south west enough give rule if or and not ";
 
         final int[] type = new int[MOST + 1];
@@ -1713,7 +1713,7 @@ public final class TypeLock {
         private Bed bed;
         private Pushes pushes;
         private final int[] vars = new int[Tokens.VARS];
-        // Six ( within one another leave three waiting values each, and two of the LITS and ALLS ahead.
+        // Two values wait in each of seven E within one another, and ahead of them the left E, an ALL and a COND.
         private final int[] stack = new int[32];
         private int top;
         private boolean dividedByZero;
