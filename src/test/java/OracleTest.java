@@ -62,7 +62,8 @@ public final class OracleTest {
     private void tellText() {
         Teller teller = new Teller(chance);
         int frame = chance.oneIn(5) ? 60 : chance.from(1, 14);
-        teller.tellAll(frame, chance.oneIn(8) ? 60 : Math.max(1, Math.min(frame, chance.from(1, 8))));
+        int kind = chance.oneIn(8) ? 60 : Math.max(1, Math.min(chance.oneIn(4) ? frame : frame / 3, chance.from(1, 8)));
+        teller.tellAll(frame, kind);
         if (teller.text().length() > 1950 || tokens(teller.text()) > 400) {
             tellText();
             return;
@@ -163,7 +164,7 @@ public final class OracleTest {
         }
         int day = chance.oneIn(9) ? chance.from(-1, 100) : chance.below(5);
         int kind = chance.oneIn(9) ? chance.from(-1, 14) : chance.below(4);
-        int many = chance.oneIn(9) ? chance.from(-1, 100) : chance.below(30);
+        int many = chance.oneIn(9) ? chance.from(-1, 100) : chance.below(chance.oneIn(2) ? 30 : 100);
         boolean bought = chance.oneIn(3);
         boolean is = size < 60 && day >= 0 && day < 100 && kind >= 0 && kind < 14 && many >= 0 && many < 100;
         due("log", lock.log(day, kind, many, bought), is ? size : -1);

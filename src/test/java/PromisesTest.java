@@ -26,6 +26,7 @@ public final class PromisesTest {
         keeps();
         joints();
         orders();
+        firstCountsMost();
         gives();
         shiftAndBow();
         judge();
@@ -659,6 +660,23 @@ public final class PromisesTest {
         }
     }
 
+    /** Two wedges that hold ten together, and nothing one by one, come behind the one that holds two alone. */
+    private static void firstCountsMost() {
+        TypeLock lock = Due.lock("frame 10 12;enough 100;piece p 1 10 10;piece q 5 2 2;"
+                + "wedge west 0 5;wedge west 10 12;wedge west 5 10;");
+        for (int x = 0; x < 10; x++) {
+            due("lay", lock.lay(0, x, 0, false), x);
+        }
+        due("lay", lock.lay(1, 0, 10, false), 10);
+        due("lay", lock.lay(1, 5, 10, false), 11);
+        int[] order = {1, 0, 2};
+        int[] held = {2, 2, 12};
+        for (int i = 0; i < 3; i++) {
+            due("order(" + i + ")", lock.order(i), order[i]);
+            due("ordered(" + i + ")", lock.ordered(i), held[i]);
+        }
+    }
+
     private static void gives() {
         TypeLock lock = Due.lock("block a 2 3;piece wood w 4 5 9;wedge west 0 2;");
         lay(lock, 0, 7, 8, 0, 1, 20, 30, 1);
@@ -780,6 +798,25 @@ public final class PromisesTest {
         due("0 bows towards west", lock.bow(0, 3), 7);
         due("0 does not bow towards east", lock.bow(0, 1), 0);
         due("towards north", lock.bow(0, 0), 0);
+        bowTowardsEach();
+    }
+
+    /** The same towards each side: where the tall one, the two and the long one that is round lie, x and y each. */
+    private static void bowTowardsEach() {
+        int[][] spots = {{0, 9, 0, 11, 4, 11, 6, 2}, {9, 0, 5, 0, 5, 4, 9, 6},
+            {0, 9, 0, 5, 4, 5, 6, 9}, {9, 0, 11, 0, 11, 4, 2, 6}};
+        int[] kinds = {0, 1, 1, 2};
+        for (int side = 0; side < 4; side++) {
+            TypeLock lock = Due.lock("frame 20 20;give=2+round*7;block t 2 6;piece p 4 3 9;piece round l 9 2 1;");
+            for (int i = 0; i < 4; i++) {
+                due("lay", lock.lay(kinds[i], spots[side][2 * i], spots[side][2 * i + 1], side % 2 == 0), i);
+            }
+            due("by the tall one", lock.shift(1, side), 2);
+            due("by the long one", lock.shift(2, side), 9);
+            for (int towards = 0; towards < 4; towards++) {
+                due("bow of the tall one towards " + towards, lock.bow(0, towards), towards == side ? 7 : 0);
+            }
+        }
     }
 
     private static void judge() {
@@ -989,6 +1026,10 @@ public final class PromisesTest {
             due("lay", lock.lay(1, 0, 2 * i, false), i);
         }
         due("one p is left", lock.gap(12, 2, 0), 24);
+        due("60 by 60", Due.lock("piece a 60 30 2;").gap(60, 60, 0), 2);
+        due("60 by 60, by the second KIND", Due.lock("piece z 7 7 1;piece a 60 30 2;").gap(60, 60, 12), 2);
+        due("1 by 60", Due.lock("piece a 60 1 1;").gap(1, 60, 11), 1);
+        due("60 by 1", Due.lock("piece a 60 1 1;").gap(60, 1, 10), 1);
         due("square: as told", Due.lock("piece s 2 2 9;").gap(2, 6, 10), 3);
         due("square: none turned", Due.lock("piece s 2 2 9;").gap(2, 6, 11), 0);
         due("told ahead of turned", Due.lock("piece s 2 3 99;").gap(6, 6, 10), 2);
@@ -1011,6 +1052,10 @@ public final class PromisesTest {
         }
         due("annul(2)", lock.annul(2), -1);
         due("annul(1)", lock.annul(1), 2);
+        TypeLock first = new TypeLock();
+        due("log", first.log(0, 0, 0, false), 0);
+        due("annul(0)", first.annul(0), 1);
+        due("annul(1), a VOID", first.annul(1), -1);
         due("a VOID", lock.annul(2), -1);
         due("annul(1) once more", lock.annul(1), 3);
         for (int i = 4; i < 60; i++) {
@@ -1068,6 +1113,12 @@ public final class PromisesTest {
         due("day 0", lock.log(0, 0, 99, false), 10);
         due("day 99", lock.log(99, 0, 99, true), 11);
         due("day 0", lock.lack(0, 0, 12), 98);
+        due("bought on day 0", lock.log(0, 0, 90, true), 12);
+        due("day 0", lock.lack(0, 0, 13), 8);
+        due("needed on day 1", lock.log(1, 0, 95, false), 13);
+        due("day 1", lock.lack(1, 0, 14), 4);
+        due("the last day", lock.log(99, 0, 99, false), 14);
+        due("the last day", lock.lack(99, 0, 15), 0);
     }
 
     private static void pages() {
@@ -1094,6 +1145,14 @@ public final class PromisesTest {
         due("lies(0, 1, 0, 0)", lock.lies(0, 1, 0, 0), -1);
         due("lies(1, 0, 1, 0)", lock.lies(1, 0, 1, 0), -1);
         due("lies(1, 0, 0, 2)", lock.lies(1, 0, 0, 2), -1);
+        due("lies(2, 2, 0, 0)", lock.lies(2, 2, 0, 0), -1);
+        for (int f = 0; f <= 4; f++) {
+            due("lies(f, 8, 0, 0)", lock.lies(f, 8, 0, 0), -1);
+            due("lies(f, 0, 8, 0)", lock.lies(f, 0, 8, 0), -1);
+            due("lies(f, 16, 0, 1)", lock.lies(f, 16, 0, 1), -1);
+        }
+        due("lies(4, 4, 3, 0)", lock.lies(4, 4, 3, 0), -1);
+        due("lies(4, 3, 4, 0)", lock.lies(4, 3, 4, 0), -1);
         for (int odd : ODD) {
             due("page(odd)", lock.page(odd, 0, 0), -1);
             due("page(, odd)", lock.page(4, odd, 0), -1);
