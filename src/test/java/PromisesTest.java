@@ -8,6 +8,7 @@ public final class PromisesTest {
     public static void main(String[] args) {
         newObject();
         feedAndBack();
+        whatWentIsGone();
         readWellFormed();
         readSyntax();
         readRoom();
@@ -105,6 +106,21 @@ public final class PromisesTest {
         due("read()", lock.read(), 0);
         due("count(10)", lock.count(10), 7);
         due("tape empty", lock.count(5), 0);
+    }
+
+    /** What went from the tape is not read, though it would go on with the last TOKEN. */
+    private static void whatWentIsGone() {
+        String[] fed = {"rule if x<=123456789", "block abcdefghiiiiii", "enough 1234567890123", "give=1==============",
+            "frame 1 1;rule if x!"};
+        int[] back = {10, 6, 9, 13, 1};
+        int[] place = {10, 14, 11, 6, 19};
+        for (int i = 0; i < fed.length; i++) {
+            TypeLock lock = new TypeLock();
+            due("feed", Due.tape(lock, Due.bytes(fed[i])), 20);
+            due("back", lock.back(back[i]), 20 - back[i]);
+            due("read() of a part of " + fed[i], lock.read(), 1);
+            due("place() of a part of " + fed[i], lock.place(), place[i]);
+        }
     }
 
     private static void readWellFormed() {
