@@ -1,3 +1,5 @@
+import java.util.Arrays;
+
 /** The edges of Terms IV and of promises 32 to 38: LINES, GAPS, and what the drawer lacks. */
 final class EdgesOfDrawer extends Edge {
     private EdgesOfDrawer() {
@@ -132,7 +134,7 @@ final class EdgesOfDrawer extends Edge {
         int[] told = {0, 1, 0, 1, 2};
         int[] turned = {1, 0, 2, 1, 0};
         for (int n = 1; n <= 20; n++) {
-            int at = java.util.Arrays.binarySearch(points, n);
+            int at = Arrays.binarySearch(points, n);
             due("line(" + n + ", 0, 0)", lock.line(n, 0, 0), at < 0 ? -2 : told[at] + turned[at]);
             due("line(" + n + ", 0, 10)", lock.line(n, 0, 10), at < 0 ? -2 : told[at]);
             due("line(" + n + ", 0, 11)", lock.line(n, 0, 11), at < 0 ? -2 : turned[at]);
@@ -188,6 +190,10 @@ final class EdgesOfDrawer extends Edge {
         lock = told("piece a 2 4 9;piece b 1 3 9;");
         due("a as told", lock.line(5, 0, 10), 1);
         due("b turned", lock.line(5, 0, 13), 1);
+        due("8: a turned twice", lock.line(8, 0, 11), 2);
+        due("8: none as told", lock.line(8, 0, 10), 0);
+        due("8: none of b as told", lock.line(8, 0, 12), 0);
+        due("8: none of b turned", lock.line(8, 0, 13), 0);
         // Both alike in each way: the first KIND, as far as it goes, and as told.
         lock = told("piece a 3 3 2;piece b 3 3 9;");
         due("12: two a", lock.line(12, 0, 10), 2);
@@ -355,6 +361,7 @@ final class EdgesOfDrawer extends Edge {
         due("bought on the DAY", lock.lack(50, 0, 5), 7);
         lock.log(49, 0, 1, true);
         due("bought a DAY ahead", lock.lack(50, 0, 6), 6);
+        due("on that DAY too", lock.lack(49, 0, 6), 0);
         lock.log(0, 0, 1, true);
         due("bought on the first DAY", lock.lack(50, 0, 7), 5);
         lock.log(99, 0, 9, true);
@@ -367,6 +374,9 @@ final class EdgesOfDrawer extends Edge {
         lock.log(49, 0, 99, false);
         due("as before", lock.lack(50, 0, 10), 5);
         due("99 less 10, less 2", lock.lack(49, 0, 10), 87);
+        lock.log(49, 0, 4, true);
+        lock.log(0, 0, 1, true);
+        due("bought twice on each DAY", lock.lack(49, 0, 12), 82);
         TypeLock ends = told("piece p 1 1 0;block b 1 1;");
         ends.log(0, 0, 99, false);
         ends.log(99, 0, 99, false);

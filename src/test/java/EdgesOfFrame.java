@@ -19,6 +19,7 @@ final class EdgesOfFrame extends Edge {
         pushedByThings();
         woodPushed();
         borneByFrame();
+        manyPairs();
         leastSets();
         heldBy();
         heldRound();
@@ -406,7 +407,7 @@ final class EdgesOfFrame extends Edge {
     }
 
     private static void leastSets() {
-        edge("Terms II", "(The least sets that are so. Likewise at the other sides.)");
+        edge("Terms II", "Likewise at the other sides.)");
         TypeLock lock = told("piece p 4 4 9;wedge north 0 60;wedge east 0 60;wedge south 0 60;wedge west 0 60;");
         // Each of four leans on the next one, and none on the FRAME.
         lay(lock, 0, 20, 20, 0, 0, 24, 18, 0, 0, 26, 22, 0, 0, 22, 24, 0);
@@ -472,6 +473,29 @@ final class EdgesOfFrame extends Edge {
         }
     }
 
+    /** Four rows of ten, half of each against the next column: 63 pairs touch across, and each push needs all. */
+    private static void manyPairs() {
+        edge("Terms II", "(The least sets that are so.");
+        for (int from = WEST; from >= EAST; from -= 2) {
+            TypeLock lock = told("enough 50;piece p 6 10 40;wedge west 0 60;wedge east 0 60;");
+            for (int i = 0; i < 40; i++) {
+                int column = from == WEST ? i / 4 : 9 - i / 4;
+                lay(lock, 0, 6 * column, 10 * (i % 4) + 5 * (i / 4 % 2), 0);
+            }
+            lock.tight(from == WEST ? 0 : 1, true);
+            int pairs = 0;
+            for (int i = 0; i < 40; i++) {
+                due("pushed(" + i + ")", lock.pushed(i, from), 1);
+                due("borne(" + i + ")", lock.borne(i, (from + 2) % 4), 1);
+                for (int j = Math.max(0, i / 4 * 4 - 4); j < i / 4 * 4; j++) {
+                    pairs += lock.touch(i, j) > 0 ? 1 : 0;
+                }
+            }
+            due("pairs", pairs, 63);
+            due("all HELD", lock.holding(), 40);
+        }
+    }
+
     // ---- Terms II: LIFTED, KEEPS
 
     private static void dropping() {
@@ -492,6 +516,14 @@ final class EdgesOfFrame extends Edge {
         due("drops(0)", lock.drops(0), 0);
         due("take one", lock.take(0), 39);
         due("all that is left", lock.round(1), 39);
+        TypeLock other = told("frame 2 2;piece round r 2 1 1;piece p 2 1 1;wedge west 0 2;");
+        lay(other, 0, 0, 0, 0, 1, 0, 1, 0);
+        other.tight(0, true);
+        due("a round one drops", other.drops(0), 1);
+        due("the other does not", other.drops(1), 0);
+        other.take(0);
+        due("nor when it has the number of the round one", other.drops(0), 0);
+        due("none drops", other.round(0), 0);
     }
 
     /**
@@ -598,6 +630,19 @@ final class EdgesOfFrame extends Edge {
             due("seeming(" + i + ")", lock.seeming(i), 2 * i + 1);
         }
         due("no more", lock.seeming(20), -1);
+        lock.take(0);
+        due("the first THING of all", lock.seeming(0), 2);
+        due("it KEEPS none", lock.keeps(0), 0);
+        lock.take(0);
+        due("the last one", lock.seeming(18), 37);
+        due("no more", lock.seeming(19), -1);
+        lay(lock, 0, 0, 0, 0, 1, 0, 1, 0);
+        due("the last one", lock.seeming(19), 38);
+        TypeLock first = told("frame 1 2;piece round r 1 1 1;piece p 1 1 1;wedge north 0 1;");
+        lay(first, 0, 0, 0, 0, 1, 0, 1, 0);
+        first.tight(0, true);
+        due("the first THING", first.seeming(0), 0);
+        due("no more", first.seeming(1), -1);
         lock.tight(1, true);
         due("HELD, they seem no more", lock.seeming(0), -1);
         due("all HELD", lock.holding(), 40);

@@ -66,6 +66,14 @@ final class EdgesOfLaws extends Edge {
         }
         due("none along 41", full.joint(true, 41), 0);
         due("none across 30", full.joint(false, 30), 0);
+        // The same from north to south.
+        lock = told("piece p 1 1 40;piece q 1 3 9;");
+        lay(lock, 0, 5, 6, 0, 0, 4, 7, 0, 0, 5, 9, 0, 1, 4, 10, 0);
+        due("6, then 7 from west; 9, then 10 to 12 from west", lock.joint(true, 5), 4);
+        lay(lock, 0, 5, 8, 0);
+        due("the point between", lock.joint(true, 5), 7);
+        lock.take(0);
+        due("one less at the end", lock.joint(true, 5), 6);
     }
 
     private static void jointsOfFrame() {
@@ -174,6 +182,7 @@ final class EdgesOfLaws extends Edge {
         due("two", lock.ordered(1), 2);
         due("all", lock.ordered(2), 12);
         due("then by numbers", lock.order(1), 0);
+        ordersOfSides();
         TypeLock full = told("frame 40 1;piece p 1 1 40;wedge east 0 1;wedge west 0 1;");
         for (int x = 0; x < 40; x++) {
             due("lay", full.lay(0, x, 0, false), x);
@@ -181,6 +190,36 @@ final class EdgesOfLaws extends Edge {
         due("40 behind the first", full.ordered(0), 40);
         due("by numbers", full.order(0), 0);
         due("40 behind the second", full.ordered(1), 40);
+    }
+
+    /** By each side one wedge holds a row or column of three, one of two; and each text has one wedge less. */
+    private static void ordersOfSides() {
+        for (int side = 0; side < 4; side++) {
+            TypeLock lock = new TypeLock();
+            for (int less = 0; less < 5; less++) {
+                StringBuilder text = new StringBuilder("frame 60 60;piece p 20 1 9;piece q 30 1 9;");
+                int many = 6 - less;
+                for (int i = 0; i < many; i++) {
+                    int row = i == many - 1 ? 0 : i == many - 2 ? 1 : 5 + i;
+                    text.append("wedge ").append(sideName(side)).append(' ').append(row).append(' ').append(row + 1).append(';');
+                }
+                due("read()", Due.read(lock, text.toString()), 0);
+                for (int i = 0; i < 3; i++) {
+                    layAt(lock, side, 0, 0, 20 * i);
+                }
+                layAt(lock, side, 1, 1, 0);
+                layAt(lock, side, 1, 1, 30);
+                due("the one that holds three", lock.order(0), many - 1);
+                due("three", lock.ordered(0), 3);
+                due("the one that holds two", lock.order(1), many - 2);
+                due("five", lock.ordered(1), 5);
+                for (int i = 2; i < many; i++) {
+                    due("then by numbers", lock.order(i), i - 2);
+                    due("five", lock.ordered(i), 5);
+                }
+                due("no more", lock.order(many), -1);
+            }
+        }
     }
 
     // ---- Terms III: GIVES, SHIFT, BOW

@@ -222,6 +222,10 @@ final class EdgesOfText extends Edge {
 
     private static void longest() {
         edge("Terms I", "TOKENS, the longest that can be,");
+        fault("rule if x==", 1, 11);
+        fault("rule if x<=", 1, 11);
+        fault("rule if x!=", 1, 11);
+        fault("rule if x<", 1, 10);
         fault("rule if x===1;", 1, 11);
         fault("rule if x<==1;", 1, 11);
         fault("rule if x!==1;", 1, 11);
@@ -284,7 +288,9 @@ final class EdgesOfText extends Edge {
         fault("piece a 1 1;", 1, 11);
         fault("piece a 1 1 1 1;", 1, 14);
         edge("Terms I", "'wedge' ('north' | 'east' | 'south' | 'west') INT INT ';'");
+        fault("wedge;", 1, 5);
         fault("wedge 0 1;", 1, 6);
+        fault("wedge north;", 1, 11);
         fault("wedge north east 0 1;", 1, 12);
         fault("wedge north 0;", 1, 13);
         fault("wedge north 0 1 2;", 1, 16);
@@ -308,6 +314,22 @@ final class EdgesOfText extends Edge {
         fault("rule if (x==1);", 1, 10);
         fault("rule if not (x==1);", 1, 14);
         good("rule if not(x)==1;");
+        // One, two and three of each, the and ahead of the or.
+        for (int set = 0; set < 16; set++) {
+            String[] lit = new String[4];
+            boolean[] is = new boolean[4];
+            for (int i = 0; i < 4; i++) {
+                is[i] = (set >> i & 1) == 1;
+                lit[i] = is[i] ? "x==7" : "x<7";
+            }
+            holds(lit[0], is[0]);
+            holds("not " + lit[0], !is[0]);
+            holds("not not not " + lit[0] + " or not " + lit[1], !is[0] || !is[1]);
+            holds("not " + lit[0] + " and not not " + lit[1], !is[0] && is[1]);
+            holds(lit[0] + " or " + lit[1] + " and " + lit[2] + " and " + lit[3], is[0] || is[1] && is[2] && is[3]);
+            holds(lit[0] + " and " + lit[1] + " or " + lit[2] + " and not " + lit[3], is[0] && is[1] || is[2] && !is[3]);
+            holds(lit[0] + " or " + lit[1] + " or " + lit[2] + " and " + lit[3], is[0] || is[1] || is[2] && is[3]);
+        }
         edge("Terms I", "E: PART {('+' | '-') PART}. PART: UNIT {('*' | '/') UNIT}. UNIT: INT | VAR | '(' E ')'.");
         fault("give=;", 1, 5);
         fault("give=1+;", 1, 7);
@@ -478,6 +500,12 @@ final class EdgesOfText extends Edge {
         due("read() of a text without", Due.read(lock, "block a 1 1;"), 0);
         lay(lock, 0, 0, 0, 0);
         due("0 again", lock.gives(0), 0);
+        due("read() of a text with it", Due.read(lock, "give=3;block a 1 1;"), 0);
+        for (int i = 0; i < 3; i++) {
+            due("read() of a text without", Due.read(lock, "rule if 7==7;block a 1 1;"), 0);
+            lay(lock, 0, 0, 0, 0);
+            due("0 once more", lock.gives(0), 0);
+        }
     }
 
     private static void lastTold() {
@@ -494,6 +522,12 @@ final class EdgesOfText extends Edge {
         lay(lock, 0, 3, 0, 0);
         due("of RULES all, the first", lock.judge(), 1);
         due("of RULES all", lock.breaks(2), 1);
+        lock = told("give=1;".repeat(60) + "give=7;" + "rule if 1==2;".repeat(2) + "rule if x==7;rule if 1/x==0;block a 1 1;");
+        lay(lock, 0, 7, 0, 0);
+        due("the last of 61 laws", lock.gives(0), 7);
+        due("the third RULE", lock.judge(), 2);
+        due("the second RULE", lock.breaks(1), 0);
+        due("the fourth RULE", lock.breaks(3), 1);
     }
 
     // ---- FAULTS
@@ -566,6 +600,11 @@ final class EdgesOfText extends Edge {
         TypeLock lock = told("block a 1 1;rule if x" + "+x".repeat(192) + "==386;");
         lay(lock, 0, 2, 0, 0);
         due("193 times 2", lock.judge(), 0);
+        for (int i = 0; i < 5; i++) {
+            due("read() once more", Due.read(lock, "block a 1 1;rule if x" + "+x".repeat(192) + "==386;"), 0);
+            lay(lock, 0, 2, 0, 0);
+            due("193 times 2 once more", lock.judge(), 0);
+        }
         lock = told("block a 1 1;rule if " + "not ".repeat(389) + "x==2;");
         lay(lock, 0, 2, 0, 0);
         due("389 nots of what holds", lock.judge(), -2);
@@ -700,6 +739,25 @@ final class EdgesOfText extends Edge {
             due("again(1)", lock.again(1), true);
             dueSame("what was held again", lock, before);
         }
+        // Nor does it the text behind it, wherever it breaks off.
+        String last = "give=5-(2-1)*2;block a 1 1;wedge west 0 60;rule if not x*2-1==7 and y==0;";
+        String full = kinds(14) + "wedge east 0 60;".repeat(6) + "rule if x-1==x-1;".repeat(6) + "give=7-(2-(3*(x-1";
+        TypeLock lock = new TypeLock();
+        for (int i = 0; i <= full.length(); i += i < full.length() - 20 ? 17 : 1) {
+            // The same object reads some of them, but no more calls than are promised.
+            lock = i % 6 == 0 ? new TypeLock() : lock;
+            Due.tape(lock, Due.bytes(full.substring(0, i)));
+            lock.read();
+            if (i % 3 == 0 || i > full.length() - 20) {
+                due("read() of another", Due.read(lock, last), 0);
+                due("KINDS", lock.count(0), 1);
+                due("WEDGES", lock.count(1), 1);
+                due("RULES", lock.count(2), 1);
+                lay(lock, 0, 0, 0, 0);
+                due("gives(0)", lock.gives(0), 3);
+                due("judge()", lock.judge(), 0);
+            }
+        }
     }
 
     private static void inPlace() {
@@ -719,6 +777,63 @@ final class EdgesOfText extends Edge {
             due("empty()", lock.empty(), text.length() > 5 ? 36 : 3600);
             due("p", lock.count(21), text.length() > 5 ? 5 : -1);
         }
+        full();
+        asked();
+    }
+
+    /** As much as a text may tell, once more and once more. */
+    private static void full() {
+        String[] ends = {"", "give=9;", "block", "frame 0 1;", "?"};
+        TypeLock lock = new TypeLock();
+        for (int i = 0; i < 10; i++) {
+            String text = kinds(14) + "wedge east 0 60;".repeat(6) + "rule if x<60;".repeat(6) + ends[i % 5];
+            int[] fault = {0, 0, 2, 5, 1};
+            due("read()", Due.read(lock, text), fault[i % 5]);
+            due("KINDS", lock.count(0), 14);
+            due("WEDGES", lock.count(1), 6);
+            due("RULES", lock.count(2), 6);
+            lay(lock, 13, 0, i % 5, 0);
+            due("gives", lock.gives(0), i % 5 == 0 ? 0 : 9);
+            due("tight", lock.tight(5, true), true);
+            due("all RULES", lock.breaks(5), lock.count(3));
+            lock.take(0);
+        }
+    }
+
+    /** What was answered by the text ahead is forgotten, with nothing laid or taken since. */
+    private static void asked() {
+        String[] texts = {"frame 9 9;piece p 3 3 3;block a 2 2;wedge west 0 9;wedge north 0 9;rule if 0==0;", "frame 8 8;piece q 4 4 4;",
+            "frame 7 7;piece p 1 1 99;piece q 7 1 1;wedge west 0 7;", ""};
+        int[][] want = {{3, 9, -2, 1, 1, 0}, {2, 8, 4, -2, -1, -1}, {2, 8, 2, 2, 0, -1}, {-2, 0, -2, -2, -1, -1}};
+        TypeLock lock = new TypeLock();
+        for (int i = 0; i < 8; i++) {
+            due("read()", Due.read(lock, texts[i % 4]), 0);
+            int[] now = want[i % 4];
+            due("line(8 or 9)", lock.line(i % 4 == 0 ? 9 : 8, 0, 0), now[0]);
+            due("nearest(10)", lock.nearest(i % 4 == 2 ? 8 : 11, 0), now[1]);
+            due("gap(8, 8)", lock.gap(8, i % 4 == 2 ? 1 : 8, 0), i % 4 == 2 ? 8 : now[2]);
+            due("gap(6, 3)", lock.gap(6, 3, 0), i % 4 == 0 ? 2 : i % 4 == 2 ? 18 : -2);
+            due("order(1)", lock.order(1), i % 4 == 0 ? 1 : -1);
+            due("order(0)", lock.order(0), i % 2 == 0 ? 0 : -1);
+            due("ordered(0)", lock.ordered(0), i % 2 == 0 ? 0 : -1);
+            due("breaks(0)", lock.breaks(0), i % 4 == 0 ? 0 : -1);
+            due("round(0)", lock.round(0), 0);
+            due("holding()", lock.holding(), 0);
+            due("longest()", lock.longest(), 0);
+        }
+        lock = told("frame 4 4;enough 100;piece round r 4 4 1;wedge west 0 4;give=1;");
+        lay(lock, 0, 0, 0, 0);
+        lock.tight(0, true);
+        due("not HELD, being round", lock.holding(), 0);
+        due("ordered(0)", lock.ordered(0), 0);
+        due("gives(0)", lock.gives(0), 1);
+        due("read()", Due.read(lock, "frame 4 4;enough 50;piece p 4 4 1;wedge west 0 2;give=2;"), 0);
+        lay(lock, 0, 0, 0, 0);
+        due("HELD by the first", lock.ordered(0), 1);
+        due("gives(0)", lock.gives(0), 2);
+        lock.tight(0, true);
+        due("HELD, being no round one", lock.holding(), 1);
+        due("it drops not", lock.drops(0), 0);
     }
 
     private static void stays() {
@@ -898,6 +1013,12 @@ final class EdgesOfText extends Edge {
         lock.tight(0, true);
         due("a RULE sees both", lock.judge(), 0);
         due("GIVE sees 0", lock.gives(0), 1);
+        lock.tight(0, false);
+        due("what a RULE saw ahead is forgotten", lock.gives(0), 1);
+        lock.tight(0, true);
+        due("a RULE sees both", lock.breaks(0), 1);
+        lock.tight(0, true);
+        due("what a RULE saw ahead is forgotten", lock.gives(0), 1);
         lock = told("frame 2 2;block a 2 2;wedge west 0 2;give=5+1/touch;");
         lay(lock, 0, 0, 0, 0);
         lock.tight(0, true);
