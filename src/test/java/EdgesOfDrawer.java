@@ -194,6 +194,12 @@ final class EdgesOfDrawer extends Edge {
         due("8: none as told", lock.line(8, 0, 10), 0);
         due("8: none of b as told", lock.line(8, 0, 12), 0);
         due("8: none of b turned", lock.line(8, 0, 13), 0);
+        // Of a there are two for all of the LINE: 4 and 2, and not 4, 4 and one more.
+        lock = told("piece a 4 2 2;piece b 4 4 9;");
+        due("10 by three", lock.line(10, 0, 0), 3);
+        due("10: a once as told", lock.line(10, 0, 10), 1);
+        due("10: a once turned", lock.line(10, 0, 11), 1);
+        due("10: b once", lock.line(10, 0, 12), 1);
         // Both alike in each way: the first KIND, as far as it goes, and as told.
         lock = told("piece a 3 3 2;piece b 3 3 9;");
         due("12: two a", lock.line(12, 0, 10), 2);
@@ -545,6 +551,12 @@ final class EdgesOfDrawer extends Edge {
             due("line(9, -1, " + what + ")", lock.line(9, -1, what), -1);
             due("line(9, 100, " + what + ")", lock.line(9, 100, what), -1);
         }
+        TypeLock first = told("piece p 9 2 1;");
+        for (int what = -3; what <= 13; what++) {
+            boolean is = what == 0 || what == 1 || what == 10 || what == 11;
+            due("KIND 0 a PIECE: line(9, 0, " + what + ")", first.line(9, 0, what) >= 0, is);
+            due("KIND 0 a PIECE: line(1, 0, " + what + ")", first.line(1, 0, what), is ? -2 : -1);
+        }
         due("of a new object", new TypeLock().line(1, 1, 10), -1);
     }
 
@@ -612,6 +624,12 @@ final class EdgesOfDrawer extends Edge {
             due("gap(6, 0, " + what + ")", lock.gap(6, 0, what), -1);
             due("gap(61, 2, " + what + ")", lock.gap(61, 2, what), -1);
             due("gap(6, 61, " + what + ")", lock.gap(6, 61, what), -1);
+        }
+        TypeLock first = told("piece p 6 2 1;");
+        for (int what = -3; what <= 13; what++) {
+            boolean is = what == 0 || what == 10 || what == 11;
+            due("KIND 0 a PIECE: gap(6, 2, " + what + ")", first.gap(6, 2, what) >= 0, is);
+            due("KIND 0 a PIECE: gap(5, 2, " + what + ")", first.gap(5, 2, what), is ? -2 : -1);
         }
         due("of a new object", new TypeLock().gap(1, 1, 10), -1);
     }

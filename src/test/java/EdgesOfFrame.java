@@ -516,6 +516,15 @@ final class EdgesOfFrame extends Edge {
         due("drops(0)", lock.drops(0), 0);
         due("take one", lock.take(0), 39);
         due("all that is left", lock.round(1), 39);
+        TypeLock one = told("frame 2 1;piece p 1 1 2;wedge west 0 1;");
+        lay(one, 0, 0, 0, 0);
+        due("one alone", one.drops(0), 1);
+        due("one alone", one.round(1), 1);
+        due("in all", one.round(0), 1);
+        one.tight(0, true);
+        lay(one, 0, 1, 0, 0);
+        due("it is HELD now, with another", one.round(0), 0);
+        due("it is HELD now", one.drops(0), 0);
         TypeLock other = told("frame 2 2;piece round r 2 1 1;piece p 2 1 1;wedge west 0 2;");
         lay(other, 0, 0, 0, 0, 1, 0, 1, 0);
         other.tight(0, true);
@@ -613,6 +622,10 @@ final class EdgesOfFrame extends Edge {
         lay(last, 1, 0, 1, 0, 1, 2, 1, 0, 0, 3, 0, 0, 0, 1, 0, 0, 0, 2, 0, 0, 0, 0, 0, 0);
         last.tight(0, true);
         due("1 and 1, then 3 four times", last.key(), 2);
+        TypeLock second = told("frame 4 2;piece p 1 1 9;piece q 2 1 2;wedge west 0 2;enough 100;");
+        lay(second, 1, 0, 1, 0, 0, 1, 0, 0, 0, 2, 0, 0, 0, 3, 0, 0, 0, 0, 0, 0, 1, 2, 1, 0);
+        second.tight(0, true);
+        due("1, then 3 four times, then 1", second.key(), 1);
     }
 
     private static void seemingOnes() {
