@@ -81,6 +81,11 @@ abstract class Edge {
         endEdge();
         for (Map.Entry<String, String> section : SECTIONS.entrySet()) {
             boolean[] named = NAMED.get(section.getKey());
+            boolean isTried = false;
+            for (boolean one : named) {
+                isTried |= one;
+            }
+            Due.due(section.getKey() + " has a test", isTried, true);
             // The signatures stand between such signs, and so do the Terms, as blocks.
             boolean hidesCode = !section.getKey().startsWith("Terms");
             StringBuilder rest = new StringBuilder();
